@@ -1101,6 +1101,33 @@ final class Model {
         return -1;
     }
 
+    /** The same for large kingdoms: the least tree that joins HOME and the wanted ones, twice, by subsets. */
+    int boxByTrees(int wanted) {
+        if (s.towns == 0 || wanted < 0 || wanted >= 1 << s.towns) {
+            return box(wanted);
+        }
+        long[][] tree = new long[1 << s.towns][s.towns];
+        long far = Integer.MAX_VALUE;
+        for (int set = 1; set < 1 << s.towns; set++) {
+            for (int t = 0; t < s.towns; t++) {
+                tree[set][t] = set == 1 << t ? 0 : far;
+                for (int part = (set - 1) & set; part > 0; part = (part - 1) & set) {
+                    tree[set][t] = Math.min(tree[set][t], tree[part][t] + tree[set ^ part][t]);
+                }
+            }
+            for (int round = 0; round < s.towns; round++) {
+                for (int t = 0; t < s.towns; t++) {
+                    for (int r : openFrom(t)) {
+                        int to = s.roads.get(r).across(t);
+                        tree[set][to] = Math.min(tree[set][to], tree[set][t] + s.roads.get(r).days);
+                    }
+                }
+            }
+        }
+        long days = tree[wanted | 1 << s.home][s.home];
+        return days >= far ? -1 : (int) (2 * days);
+    }
+
     private Set<Integer> reached(int without) {
         Set<Integer> seen = new HashSet<>(Collections.singleton(s.home));
         List<Integer> todo = new ArrayList<>(seen);

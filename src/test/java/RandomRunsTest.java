@@ -11,9 +11,13 @@ public final class RandomRunsTest {
     private final Model m = new Model();
     private final StringBuilder log = new StringBuilder();
 
+    /** Up to 12 TOWNS and 24 ROADS; then no BOX is sought among all SLIPS. */
+    private final boolean large;
+
     private RandomRunsTest(Check c, long seed) {
         this.c = c;
         this.random = new Random(seed);
+        this.large = seed % 4 == 3;
     }
 
     public static void main(String[] args) {
@@ -95,7 +99,26 @@ public final class RandomRunsTest {
         return pick(upTo(800), upTo(800), upTo(100000), -1, Integer.MAX_VALUE, 99999, 0);
     }
 
+    private String largeText() {
+        StringBuilder t = new StringBuilder();
+        int towns = 6 + random.nextInt(7);
+        t.append("towns").append(towns).append(";home").append(random.nextInt(towns)).append(";");
+        t.append("year").append(1 + upTo(99)).append(";");
+        int roads = 10 + upTo(14);
+        for (int r = 0; r < roads; r++) {
+            int one = random.nextInt(towns);
+            int other = (one + 1 + random.nextInt(towns - 1)) % towns;
+            t.append("road").append(one).append("to").append(other).append("toll").append(upTo(pick(3, 9)));
+            t.append(random.nextInt(6) == 0 ? "summer" + upTo(9) : "").append("days").append(1 + upTo(8)).append(";");
+        }
+        return t.toString();
+    }
+
     private String text() {
+        return large ? largeText() : smallText();
+    }
+
+    private String smallText() {
         StringBuilder t = new StringBuilder();
         int towns = 2 + random.nextInt(4);
         if (random.nextInt(3) == 0) {
@@ -262,10 +285,7 @@ public final class RandomRunsTest {
             case 40 -> through(i);
             case 41, 42, 43 -> slipRow(row);
             case 44 -> lane();
-            case 45 -> {
-                int wanted = about(1 << m.count(0));
-                due("box", x.box(wanted), m.box(wanted), wanted);
-            }
+            case 45 -> box();
             case 46 -> due("cutOff", x.cutOff(someRoadKept()), m.cutOff(kept), kept);
             case 47, 48 -> {
                 int a = about(720);
@@ -321,6 +341,16 @@ public final class RandomRunsTest {
         due("fault", x.fault(0), m.fault(0), 0);
         due("fault", x.fault(1), m.fault(1), 1);
         due("fault", x.fault(2), m.fault(2), 2);
+    }
+
+    private void box() {
+        int wanted = about(1 << m.count(0));
+        if (!large) {
+            due("box", x.box(wanted), m.box(wanted), wanted);
+            due("boxByTrees", x.box(wanted), m.boxByTrees(wanted), wanted);
+        } else if (m.count(0) < 10 || random.nextInt(20) == 0) {
+            due("box", x.box(wanted), m.boxByTrees(wanted), wanted);
+        }
     }
 
     private void through(int i) {
