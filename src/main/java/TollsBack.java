@@ -967,6 +967,9 @@ public final class TollsBack {
         }
 
         int welcome(int purse) {
+            if (guests >= MOST_TRAVELLERS) {
+                return NOT_NOW;
+            }
             people[guests].begin(land.home, purse);
             guests++;
             return guests - 1;
@@ -1406,14 +1409,13 @@ public final class TollsBack {
             return NONE;
         }
 
-        /** The first DAY on which both are in one TOWN: one of the two comes there on it. */
+        /**
+         * The first DAY on which both are in one TOWN. One of the two comes there on it: if he does,
+         * the other one can't have met him earlier, for he is nowhere for ever till then.
+         */
         int meets(Trip other) {
             int mine = firstMeeting(other);
-            int yours = other.firstMeeting(this);
-            if (mine == NONE || yours == NONE) {
-                return Math.max(mine, yours);
-            }
-            return Math.min(mine, yours);
+            return mine != NONE ? mine : other.firstMeeting(this);
         }
 
         private int firstMeeting(Trip other) {
@@ -1724,6 +1726,7 @@ public final class TollsBack {
             rounds[place * HALVES + half] = sum;
         }
 
+        /** All ROADS from there but the one by which one came; a root's number is above all marks: none. */
         private void sumBeyond(World world, int place, int town, int half) {
             long sum = 0;
             for (int r = 0; r < world.land.roads; r++) {
@@ -1783,7 +1786,7 @@ public final class TollsBack {
         }
     }
 
-    /** Least trees of open ROADS: of each set of TOWNS that of all its ROADS that needs fewest days. */
+    /** Trees of open ROADS that need the fewest days. */
     private static final class Trees {
         private final int[] byDays = new int[MOST_ROADS];
         private final int[] group = new int[MOST_TOWNS];

@@ -446,6 +446,7 @@ public final class HomeTest {
             int k = 1234567890 + i * 17;
             C.due("line's ROAD " + i, x.journey(0, 40, k, i), lineRoad(40, 0, k, i));
         }
+        C.due("C(40, 20) modulo, once more", x.journeys(0, 40), 846527861);
         for (int size = 1; size <= 40; size++) {
             long[] slips = new long[size];
             for (int k = 0; k < size; k++) {

@@ -116,6 +116,9 @@ public final class KingdomTest {
         bad(2, "^years 5;");
         bad(2, "^yea 5;");
         bad(2, "^to 5;");
+        bad(2, "^fear 5;");
+        bad(2, "^yeas 5;");
+        bad(2, "summer 5 ^so 6;");
         bad(2, "year ^year;");
         bad(2, "year ^;");
         bad(2, "year 5 ^5;");
