@@ -114,11 +114,7 @@ public final class HomeTest {
         C.due("nothing stays", y.of(0, 2), 40);
         TollsBack z = Check.realm("towns 2;road 0 to 1 toll 999 days 90;road 0 to 1 toll 999 days 90;");
         z.comes(0);
-        long[] forty = new long[40];
-        for (int k = 0; k < 40; k++) {
-            forty[k] = k % 2;
-        }
-        Check.row(z, 0, forty);
+        Check.row(z, 0, Check.byTurns(40, 0, 1));
         C.due("forty dear ones", z.needs(0, 0), 39960);
         TollsBack w = Check.realm(PAIR);
         w.comes(1000);
@@ -350,11 +346,7 @@ public final class HomeTest {
 
     private static void throughFull() {
         // Ten free ROADS between two TOWNS: all rows can be; 10 + .. + 10^5 = 111110 GOINGS.
-        StringBuilder t = new StringBuilder("towns2;");
-        for (int r = 0; r < 10; r++) {
-            t.append("road0to1toll0days1;");
-        }
-        TollsBack x = Check.realm(t.toString());
+        TollsBack x = Check.realm(Realms.manyRoads(10, "toll0days1"));
         x.comes(0);
         dueTour(x, "11110 GOINGS", 2, 4, 0, 0, 0);
         C.due("111110 GOINGS", x.through(0, 2, 5, 0), -4);
@@ -368,21 +360,6 @@ public final class HomeTest {
             x.close(r, true);
         }
         C.due("one ROAD, eight GOINGS", x.through(0, 2, 8, 1), 2);
-        TollsBack y = Check.realm(freeRoads(6, 30, 50, 50, 53, 3, 35, 52, 10, 1, 32, 24, 32));
-        y.comes(0);
-        C.due("just 100000 GOINGS", y.through(0, 0, 7, 1), 0);
-        TollsBack z = Check.realm(freeRoads(5, 13, 3, 21, 31, 30, 43, 40, 30, 20, 10, 3, 13, 31));
-        z.comes(0);
-        C.due("100001 GOINGS", z.through(0, 0, 6, 1), -4);
-    }
-
-    /** Free ROADS of a day, each told by its TOWNS as two digits. */
-    private static String freeRoads(int towns, int... ends) {
-        StringBuilder t = new StringBuilder("towns").append(towns).append(";");
-        for (int e : ends) {
-            t.append("road").append(e / 10).append("to").append(e % 10).append("toll0days1;");
-        }
-        return t.toString();
     }
 
     private static void journeys() {
@@ -429,11 +406,7 @@ public final class HomeTest {
         TollsBack x = Check.realm(PAIR);
         for (int n = 0; n <= 40; n++) {
             for (int size = 0; size <= 40; size += 1 + size / 4) {
-                long[] slips = new long[size];
-                for (int k = 0; k < size; k++) {
-                    slips[k] = k % 2 == 0 ? 0 : 3;
-                }
-                Check.row(x, 0, slips);
+                Check.row(x, 0, Check.byTurns(size, 0, 3));
                 BigInteger due = size > n || (n - size) % 2 != 0 ? BigInteger.ZERO : choose(n, (n - size) / 2);
                 C.due("line " + n + " " + size, x.journeys(0, n), due.mod(BigInteger.valueOf(1000000007)).intValue());
             }
@@ -448,11 +421,7 @@ public final class HomeTest {
         }
         C.due("C(40, 20) modulo, once more", x.journeys(0, 40), 846527861);
         for (int size = 1; size <= 40; size++) {
-            long[] slips = new long[size];
-            for (int k = 0; k < size; k++) {
-                slips[k] = k % 2 == 0 ? 0 : 3;
-            }
-            Check.row(x, 1, slips);
+            Check.row(x, 1, Check.byTurns(size, 0, 3));
             C.due("all of a straight one", x.journey(1, size, 0, size - 1), (size - 1) % 2);
             C.due("there is but one", x.journey(1, size, 1, 0), -1);
         }
@@ -581,11 +550,7 @@ public final class HomeTest {
         dueLane(y, "the one that is left", 0, 3, 0, new int[] {6, 8, 2}, 6, 2);
         y.close(2, true);
         dueLane(y, "more days", 0, 3, 0, new int[] {6, 9, 1}, 0);
-        StringBuilder t = new StringBuilder("towns12;");
-        for (int r = 0; r < 11; r++) {
-            t.append("road").append(r).append("to").append(r + 1).append("toll999days90;");
-        }
-        TollsBack z = Check.realm(t.toString());
+        TollsBack z = Check.realm(Realms.longRow());
         dueLane(z, "the longest", 0, 11, 0, new int[] {10989, 990, 11}, 0, 1, 2, 3, 4, 5, 6, 7, 8, 9, 10);
     }
 

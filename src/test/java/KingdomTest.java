@@ -56,18 +56,18 @@ public final class KingdomTest {
     }
 
     private static void goodTexts() {
-        good("", 0);
-        good(" \n ", 0);
-        good("towns 2;", 1);
-        good("towns 12;home 11;", 2);
-        good("towns2;home1;", 2);
-        good("\ntowns\n2 ; home 01\n;", 2);
-        good("year 1;year 360;late 0;late 100;", 4);
-        good("year 007;", 1);
-        good("summer 0 to 359;summer 5 to 5;summer 359 to 359;", 3);
-        good("year 5;late 5;summer 1 to 2;towns 2;road 0 to 1 toll 0 days 1;", 5);
-        good("towns 3;road 2 to 0 toll 999 summer 0 days 90;road 0 to 2 toll 0 summer 999 days 1;", 3);
-        good("towns3;road2to0toll9summer8days7;", 2);
+        C.good("", 0);
+        C.good(" \n ", 0);
+        C.good("towns 2;", 1);
+        C.good("towns 12;home 11;", 2);
+        C.good("towns2;home1;", 2);
+        C.good("\ntowns\n2 ; home 01\n;", 2);
+        C.good("year 1;year 360;late 0;late 100;", 4);
+        C.good("year 007;", 1);
+        C.good("summer 0 to 359;summer 5 to 5;summer 359 to 359;", 3);
+        C.good("year 5;late 5;summer 1 to 2;towns 2;road 0 to 1 toll 0 days 1;", 5);
+        C.good("towns 3;road 2 to 0 toll 999 summer 0 days 90;road 0 to 2 toll 0 summer 999 days 1;", 3);
+        C.good("towns3;road2to0toll9summer8days7;", 2);
         TollsBack x = Check.realm("late 1;year 2;towns 3;home 2;summer 3 to 4;late 5;year 6;home 1;summer 7 to 8;");
         C.due("the later home strikes", x.count(3), 1);
         C.due("the later year strikes", x.count(4), 6);
@@ -77,83 +77,63 @@ public final class KingdomTest {
         C.due("LINES", x.count(8), 9);
     }
 
-    private static void good(String text, int lines) {
-        TollsBack x = new TollsBack();
-        C.due("kingdom of " + text, Check.kingdom(x, text), lines);
-        C.due("its FAULT: " + text, x.fault(0), 0);
-        C.due("its place: " + text, x.fault(1), -1);
-        C.due("its LINES: " + text, x.count(8), lines);
-    }
-
-    /** The sign ^ stands ahead of the place. */
-    private static void bad(int kind, String text) {
-        int place = text.indexOf('^');
-        String whole = text.substring(0, place) + text.substring(place + 1);
-        TollsBack x = new TollsBack();
-        C.due("kingdom of " + whole, Check.kingdom(x, whole), -30 - kind);
-        C.due("its FAULT: " + whole, x.fault(0), kind);
-        C.due("its place: " + whole, x.fault(1), place);
-        C.due("fault(2)", x.fault(2), -1);
-        C.due("fault(-1)", x.fault(-1), -1);
-    }
-
     private static void faults() {
         for (String sign : new String[] {"A", "\t", "\r", ",", "-", "{", "`", "/", ":", "\u00e9", "\0", "\u00ff"}) {
-            bad(1, "year 5;^" + sign);
-            bad(1, "year ^" + sign + "5;");
-            bad(1, "year 5^" + sign + ";");
+            C.bad(1, "year 5;^" + sign);
+            C.bad(1, "year ^" + sign + "5;");
+            C.bad(1, "year 5^" + sign + ";");
         }
-        bad(1, "year ^1234;");
-        bad(1, "year ^0001;");
-        bad(1, "^99999999999999999999;");
-        bad(1, "year 5 ^1000");
-        bad(2, "year 5^");
-        bad(2, "year 5  \n^");
-        bad(2, "year^");
-        bad(2, "^;");
-        bad(2, "year 5;^;");
-        bad(2, "^5;");
-        bad(2, "^years 5;");
-        bad(2, "^yea 5;");
-        bad(2, "^to 5;");
-        bad(2, "^fear 5;");
-        bad(2, "^yeas 5;");
-        bad(2, "summer 5 ^so 6;");
-        bad(2, "year ^year;");
-        bad(2, "year ^;");
-        bad(2, "year 5 ^5;");
-        bad(2, "year 5^a;");
-        bad(2, "^home 0;towns 2;");
-        bad(2, "^road 0 to 1 toll 1 days 1;");
-        bad(2, "summer 5 ^;");
-        bad(2, "summer 5 ^6;");
-        bad(2, "summer 5 to ^to;");
-        bad(2, "towns 2;road 0 ^1;");
-        bad(2, "towns 2;road 0 to 1 ^days 1;");
-        bad(2, "towns 2;road 0 to 1 toll ^days 1;");
-        bad(2, "towns 2;road 0 to 1 toll 1 ^toll 1 days 1;");
-        bad(2, "towns 2;road 0 to 1 toll 1 ^;");
-        bad(2, "towns 2;road 0 to 1 toll 1 summer 2 ^summer 2 days 1;");
-        bad(2, "towns 2;road 0 to 1 toll 1 summer ^days 1;");
-        bad(2, "towns 2;road 0 to 1 toll 1 days 1 ^summer 2;");
-        bad(2, "towns 2;road 0 to 1 toll 1 days^");
-        bad(3, "towns ^1;");
-        bad(3, "towns ^13;");
-        bad(3, "towns 2;home ^2;");
-        bad(3, "year ^0;");
-        bad(3, "year ^361;");
-        bad(3, "late ^101;");
-        bad(3, "summer ^360 to 2;");
-        bad(3, "summer 5 to ^4;");
-        bad(3, "summer 5 to ^360;");
-        bad(3, "towns 2;road ^2 to 0 toll 1 days 1;");
-        bad(3, "towns 2;road 0 to ^2 toll 1 days 1;");
-        bad(3, "towns 2;road 1 to ^1 toll 1 days 1;");
-        bad(3, "towns 2;road 0 to 1 toll 1 days ^0;");
-        bad(3, "towns 2;road 0 to 1 toll 1 days ^91;");
-        bad(3, "year ^400 5 5555;");
-        bad(4, "towns 2;^towns 2;");
-        bad(4, "towns 2;year 3;^towns 99");
+        C.bad(1, "year ^1234;");
+        C.bad(1, "year ^0001;");
+        C.bad(1, "^99999999999999999999;");
+        C.bad(1, "year 5 ^1000");
+        C.bad(2, "year 5^");
+        C.bad(2, "year 5  \n^");
+        C.bad(2, "year^");
+        C.bad(2, "^;");
+        C.bad(2, "year 5;^;");
+        C.bad(2, "^5;");
+        C.bad(2, "^years 5;");
+        C.bad(2, "^yea 5;");
+        C.bad(2, "^to 5;");
+        C.bad(2, "^fear 5;");
+        C.bad(2, "^yeas 5;");
+        C.bad(2, "summer 5 ^so 6;");
+        C.bad(2, "year ^year;");
+        C.bad(2, "year ^;");
+        C.bad(2, "year 5 ^5;");
+        C.bad(2, "year 5^a;");
+        C.bad(2, "^home 0;towns 2;");
+        C.bad(2, "^road 0 to 1 toll 1 days 1;");
+        C.bad(2, "summer 5 ^;");
+        C.bad(2, "summer 5 ^6;");
+        C.bad(2, "summer 5 to ^to;");
+        C.bad(2, "towns 2;road 0 ^1;");
+        C.bad(2, "towns 2;road 0 to 1 ^days 1;");
+        C.bad(2, "towns 2;road 0 to 1 toll ^days 1;");
+        C.bad(2, "towns 2;road 0 to 1 toll 1 ^toll 1 days 1;");
+        C.bad(2, "towns 2;road 0 to 1 toll 1 ^;");
+        C.bad(2, "towns 2;road 0 to 1 toll 1 summer 2 ^summer 2 days 1;");
+        C.bad(2, "towns 2;road 0 to 1 toll 1 summer ^days 1;");
+        C.bad(2, "towns 2;road 0 to 1 toll 1 days 1 ^summer 2;");
+        C.bad(2, "towns 2;road 0 to 1 toll 1 days^");
+        C.bad(3, "towns ^1;");
+        C.bad(3, "towns ^13;");
+        C.bad(3, "towns 2;home ^2;");
+        C.bad(3, "year ^0;");
+        C.bad(3, "year ^361;");
+        C.bad(3, "late ^101;");
+        C.bad(3, "summer ^360 to 2;");
+        C.bad(3, "summer 5 to ^4;");
+        C.bad(3, "summer 5 to ^360;");
+        C.bad(3, "towns 2;road ^2 to 0 toll 1 days 1;");
+        C.bad(3, "towns 2;road 0 to ^2 toll 1 days 1;");
+        C.bad(3, "towns 2;road 1 to ^1 toll 1 days 1;");
+        C.bad(3, "towns 2;road 0 to 1 toll 1 days ^0;");
+        C.bad(3, "towns 2;road 0 to 1 toll 1 days ^91;");
+        C.bad(3, "year ^400 5 5555;");
+        C.bad(4, "towns 2;^towns 2;");
+        C.bad(4, "towns 2;year 3;^towns 99");
     }
 
     private static void tooManyRoads() {
@@ -161,9 +141,9 @@ public final class KingdomTest {
         for (int r = 0; r < 24; r++) {
             roads.append("road0to1toll").append(r).append("days1;");
         }
-        good(roads.toString(), 25);
-        bad(4, roads + "^road 9");
-        bad(2, roads + "year 5;^x");
+        C.good(roads.toString(), 25);
+        C.bad(4, roads + "^road 9");
+        C.bad(2, roads + "year 5;^x");
         C.due("ROADS", Check.realm(roads.toString()).count(1), 24);
         C.due("from(0)", Check.realm(roads.toString()).from(0), (1 << 24) - 1);
     }

@@ -2,8 +2,6 @@
 public final class TravellersTest {
     private static final String REALM = "towns 3;road 0 to 1 toll 10 summer 20 days 5;"
             + "road 1 to 2 toll 7 days 3;road 2 to 0 toll 30 days 1;year 100;late 45;";
-    /** Two TOWNS and two ROADS between them: free, and for 9 coins. */
-    private static final String PAIR = "towns 2;road 0 to 1 toll 0 days 1;road 1 to 0 toll 9 days 2;";
 
     private static final Check C = new Check("TravellersTest");
 
@@ -124,7 +122,7 @@ public final class TravellersTest {
         C.due("late: 45 hundredths", x.go(0, 0), 1004);
         due(x, 0, 0, 106, 94, 0, 10, 4);
         C.due("THE TREASURY keeps the rest", x.treasury(0), 6);
-        TollsBack y = Check.realm(PAIR);
+        TollsBack y = Check.realm(Realms.PAIR);
         y.comes(100);
         C.due("free", y.go(0, 0), 0);
         C.due("a SLIP of 0", y.of(0, 3), 1);
@@ -159,22 +157,13 @@ public final class TravellersTest {
         C.due("just too little", y.go(0, 2), -5);
     }
 
-    private static TollsBack withForty() {
-        TollsBack x = Check.realm(PAIR);
-        x.comes(1000);
-        for (int k = 0; k < 40; k++) {
-            x.go(0, k % 2);
-        }
-        return x;
-    }
-
     private static void fortySlips() {
-        TollsBack x = withForty();
+        TollsBack x = Realms.withForty();
         C.due("forty", x.of(0, 3), 40);
         C.due("one more that is paid", x.go(0, 0), -4);
         C.due("one that is had back", x.go(0, 1), 1009);
         C.due("then there is room", x.go(0, 1), 9);
-        TollsBack y = Check.realm(PAIR);
+        TollsBack y = Check.realm(Realms.PAIR);
         y.comes(20 * 9);
         for (int k = 0; k < 40; k++) {
             y.go(0, 1 - k % 2);
@@ -260,7 +249,7 @@ public final class TravellersTest {
     }
 
     private static void giveToAFullOne() {
-        TollsBack x = withForty();
+        TollsBack x = Realms.withForty();
         x.comes(0);
         x.go(1, 0);
         x.toss(0);
@@ -329,7 +318,7 @@ public final class TravellersTest {
         C.due("judge(0, 0, -1)", x.judge(0, 0, -1), -2);
         due(x, 0, 0, 0, 50, 0, 0, 0);
         C.due("nothing stays", x.treasury(0), 0);
-        TollsBack y = withForty();
+        TollsBack y = Realms.withForty();
         Check.row(y, 0, 1, 1, 0);
         dueJudged(y, 0, 2, -4, 9, 9, 40, 0, 64);
     }
