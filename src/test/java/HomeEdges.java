@@ -217,9 +217,12 @@ final class HomeEdges {
         c.due("none", y.partner(0), -1);
         c.due("none", y.partner(1), -1);
         TollsBack z = swap(1);
-        z.go(1, 1);
-        c.due("who is elsewhere is none", z.partner(0), -1);
-        c.due("nor is who is elsewhere for him", z.partner(1), -1);
+        z.go(1, 0);
+        z.toss(1);
+        c.due("one at HOME would gain: there for 1, back for 3 in place of 2", z.gain(0, 1, 1), 1);
+        c.due("none would lose", z.gain(0, 1, 0), 0);
+        c.due("but who is elsewhere is none", z.partner(0), -1);
+        c.due("nor is he for that one", z.partner(1), -1);
         c.due("alone", swap().partner(0), -1);
         c.on(() -> swap(1));
         c.stayAll("partner(#)", TollsBack::partner, -2, -1, 2, 6, MIN, MAX);
@@ -332,6 +335,16 @@ final class HomeEdges {
         dueCheapest("all paid", v, 0, 10989, 11);
         TollsBack u = Realms.withForty();
         dueCheapest("forty at HOME", u, 0, -180, 40);
+        TollsBack t = Check.realm(Realms.LINE);
+        t.comes(10);
+        Check.row(t, 0, 0, 1, 2);
+        t.perform(0, 0);
+        t.toss(0);
+        t.toss(0);
+        dueCheapest("no SLIP from here: 5 paid, 1 had back", t, 0, 4, 3);
+        t.toss(0);
+        t.go(0, 3);
+        dueCheapest("4 had back, then 6 paid", t, 0, 2, 4);
     }
 
     private void cheapestNoWay() {
@@ -507,6 +520,16 @@ final class HomeEdges {
         z.comes(0);
         dueTour("the fewest GOINGS, though later by ROADS", z, 4, 8, 0, 2, 2);
         dueTour("round: the first by ROADS", z, 6, 8, 0, 0, 1, 2);
+        for (int late = 0; late < 2; late++) {
+            TollsBack w = Check.realm("towns 4;road 0 to 1 toll 10 summer 20 days 5;road 1 to 2 toll 7 days 3;"
+                    + "road 0 to 3 toll 0 days 1;year 100;late 40;");
+            w.comes(50);
+            w.rest(0, 269);
+            w.go(0, 0);
+            w.rest(0, 89 + late);
+            // Sets out for HOME on DAY 369, a year behind 269, or a day later.
+            dueTour("there and back, and home by a SLIP that other rows would have used", w, 4, 3, late == 0 ? 20 : 8, 1, 1, 0);
+        }
     }
 
     private void throughRefused() {
@@ -534,14 +557,16 @@ final class HomeEdges {
         x.comes(0);
         c.due("just 100000 GOINGS", x.through(0, 0, 7, 1), 0);
         c.due("many more", x.through(0, 0, 8, 1), -4);
+        c.due("just 100000 once more", x.through(0, 0, 7, 1), 0);
         c.on(() -> {
-            TollsBack y = Check.realm(Realms.freeRoads(5, 13, 3, 21, 31, 30, 43, 40, 30, 20, 10, 3, 13, 31));
+            TollsBack y = Check.realm(Realms.freeRoads(6, 13, 3, 21, 31, 30, 43, 40, 30, 20, 10, 3, 13, 31));
             y.comes(0);
             return y;
         });
         c.stayAll("100001 GOINGS: through(0, 0, 6, #)", (y, what) -> y.through(0, 0, 6, what), -4, 0, 1, 10, 17);
+        c.stayAll("FULL without one so far: through(0, 32, 6, #)", (y, what) -> y.through(0, 32, 6, what), -4, 0, 1, 10, 17);
         c.stays("what is told first", y -> y.through(0, 0, 6, 18), -2);
-        c.stays("TOWNS are told first", y -> y.through(0, 32, 6, 0), -3);
+        c.stays("TOWNS are told first", y -> y.through(0, 64, 6, 0), -3);
         // Ten ROADS between two TOWNS, one of them free: all rows that cost can't be gone.
         TollsBack z = Check.realm(Realms.manyRoads(1, "toll0days1") + Realms.manyRoads(9, "toll1days1").substring(7));
         z.comes(0);

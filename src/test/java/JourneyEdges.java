@@ -1,4 +1,8 @@
+import java.util.ArrayList;
 import java.util.Arrays;
+import java.util.HashMap;
+import java.util.List;
+import java.util.Map;
 
 /** The edges that the document names of JOURNEYS, LANES, BOXES, THE LEDGER, FAIRS: promises 32 to 40. */
 final class JourneyEdges {
@@ -56,6 +60,8 @@ final class JourneyEdges {
         dueJourneys(x, 2, 0, 0, 1);
         x.close(1, true);
         dueJourneys(x, 3, 0, 0, 2, 4);
+        dueJourneys(x, 2, 0, 0, 2);
+        dueJourneys(x, 1, 1, 0);
         dueJourneys(x, 4, 4);
         x.close(0, true);
         x.close(2, true);
@@ -131,6 +137,10 @@ final class JourneyEdges {
         c.stayAll("journeys(1, #)", (x, n) -> x.journeys(1, n), -3, 0, 2, 40, 41);
         c.stayAll("journeys(2, #)", (x, n) -> x.journeys(2, n), -3, 0, 1, -1);
         c.stayAll("journeys(0, #)", (x, n) -> x.journeys(0, n), 0, 0, 2, 40);
+        TollsBack z = Check.realm(Realms.ROUND);
+        dueJourneys(z, 40, 0, 2);
+        dueJourneys(z, 41, -3, 2);
+        dueJourneys(z, -1, -3, 2);
         c.on(JourneyEdges::noTownsButRows);
         c.stayAll("without TOWNS: journeys(#, 0)", (x, row) -> x.journeys(row, 0), -5, 0, 2, 3);
         c.stayAll("without TOWNS: journeys(#, 41)", (x, row) -> x.journeys(row, 41), -5, 0, 2, 3);
@@ -212,6 +222,11 @@ final class JourneyEdges {
             c.dueEach("journey(0, 4, " + k + ", #)", i -> x.journey(0, 4, of, i), fours[k][0], fours[k][1], fours[k][2],
                     fours[k][3], -1);
         }
+        Check.row(x, 0, 5);
+        c.due("the only way to a SLIP", x.journey(0, 1, 0, 0), 2);
+        inOrder("towns 5;road 0 to 1 toll 1 days 1;road 2 to 1 toll 1 days 1;road 1 to 3 toll 1 days 1;"
+                + "road 4 to 3 toll 1 days 1;", new int[][] {{0, 1}, {2, 1}, {1, 3}, {4, 3}});
+        inOrder(Realms.ROUND + "home 1;", new int[][] {{0, 1}, {1, 2}, {2, 0}});
         c.on(() -> {
             TollsBack y = Check.busyRealm(Realms.ROUND);
             Check.row(y, 0);
@@ -240,6 +255,61 @@ final class JourneyEdges {
         Check.row(z, 0, 0);
         c.due("the last of C(33, 16), above modulo", z.journey(0, 33, 1166803109, 0), 1);
         c.due("one more", z.journey(0, 33, 1166803110, 0), -1);
+        c.due("how many, modulo", z.journeys(0, 33), 166803103);
+    }
+
+    /** All JOURNEYS of up to five ROADS, found by going all rows of ROADS in their order. */
+    private void inOrder(String text, int[][] ends) {
+        TollsBack x = Check.realm(text);
+        Map<List<Integer>, List<int[]>> found = new HashMap<>();
+        for (int n = 0; n <= 5; n++) {
+            found.clear();
+            int rows = 1;
+            for (int i = 0; i < n; i++) {
+                rows *= ends.length;
+            }
+            for (int k = 0; k < rows; k++) {
+                int[] row = new int[n];
+                int left = k;
+                for (int i = n - 1; i >= 0; i--) {
+                    row[i] = left % ends.length;
+                    left /= ends.length;
+                }
+                List<Integer> slips = gone(row, ends, x.count(3));
+                if (slips != null) {
+                    found.computeIfAbsent(slips, s -> new ArrayList<>()).add(row);
+                }
+            }
+            for (List<Integer> slips : found.keySet()) {
+                Check.row(x, 3, slips.stream().mapToLong(m -> m).toArray());
+                List<int[]> due = found.get(slips);
+                c.due("so many leave " + slips, x.journeys(3, n), due.size());
+                for (int k = 0; k <= due.size(); k++) {
+                    for (int i = 0; i < n; i++) {
+                        c.due("the " + k + "-th that leaves " + slips, x.journey(3, n, k, i), k < due.size() ? due.get(k)[i] : -1);
+                    }
+                }
+            }
+        }
+    }
+
+    /** The SLIPS that are open when a row of ROADS has been gone, null if it can't be gone. */
+    private static List<Integer> gone(int[] row, int[][] ends, int home) {
+        List<Integer> slips = new ArrayList<>();
+        int town = home;
+        for (int r : row) {
+            if (ends[r][0] != town && ends[r][1] != town) {
+                return null;
+            }
+            int mark = ends[r][0] == town ? 2 * r : 2 * r + 1;
+            if (!slips.isEmpty() && slips.get(slips.size() - 1) == (mark ^ 1)) {
+                slips.remove(slips.size() - 1);
+            } else {
+                slips.add(mark);
+            }
+            town = ends[r][0] == town ? ends[r][1] : ends[r][0];
+        }
+        return slips;
     }
 
     private void journeyRefused() {
@@ -254,6 +324,7 @@ final class JourneyEdges {
         c.stayAll("journey(0, #, 0, 0)", (x, n) -> x.journey(0, n, 0, 0), -3, -1, 41, MIN, MAX);
         c.stayAll("journey(0, 3, #, 0)", (x, k) -> x.journey(0, 3, k, 0), -3, -1, MIN);
         c.stays("journey(0, 40, 0, 0)", x -> x.journey(0, 40, 0, 0), -1);
+        c.stays("a number that can't be is told, if i isn't one: journey(0, 41, 0, -1)", x -> x.journey(0, 41, 0, -1), -3);
         c.on(JourneyEdges::noTownsButRows);
         c.stayAll("without TOWNS: journey(#, 1, 0, 0)", (x, row) -> x.journey(row, 1, 0, 0), -5, 0, 2, 3);
         c.stays("without TOWNS: journey(2, 41, -1, 0)", x -> x.journey(2, 41, -1, 0), -5);
@@ -343,6 +414,10 @@ final class JourneyEdges {
         c.due("all", y.box(31), 22);
         y.close(7, true);
         c.due("the shortest is closed", y.box(14), 24);
+        TollsBack w = Check.realm("towns 4;road 0 to 1 toll 1 days 1;road 1 to 2 toll 1 days 1;road 2 to 0 toll 1 days 1;"
+                + "road 2 to 3 toll 1 days 9;");
+        c.due("a round of short ones leads no further", w.box(15), 22);
+        c.due("not all of the round is wanted", w.box(8), 20);
         c.due("a long row", Check.realm(Realms.longRow()).box(4095), 1980);
         c.due("its last", Check.realm(Realms.longRow()).box(2048), 1980);
         c.on(() -> {
@@ -409,7 +484,14 @@ final class JourneyEdges {
         c.due("on DAY 718", x.ledger(718, 718), 5);
         c.due("the last two", x.ledger(718, 719), 8);
         c.due("all but the last", x.ledger(0, 718), 10);
-        c.due("refused GOINGS", x.go(3, 0) - 1005 + x.ledger(719, 719), -2);
+        x.go(3, 0);
+        c.due("had back on DAY 719", x.ledger(719, 719), -2);
+        TollsBack z = Check.realm("towns 2;road 0 to 1 toll 0 days 1;");
+        z.comes(0);
+        z.go(0, 0);
+        z.go(0, 0);
+        c.due("nothing paid, nothing had back", z.ledger(0, 719), 0);
+        c.due("nor has THE TREASURY anything", z.treasury(0), 0);
         c.on(Realms::busy);
         c.stayAll("ledger(#, 719)", (y, from) -> y.ledger(from, 719), -3, -1, 720, MIN, MAX);
         c.stayAll("ledger(0, #)", (y, to) -> y.ledger(0, to), -3, -1, 720, MIN, MAX);
@@ -473,6 +555,14 @@ final class JourneyEdges {
         z.rest(1, 3);
         Check.row(z, 0, 0);
         dueMeet("till one can't be: -5, both", z, 0, 0, 3, 0);
+        TollsBack v = Check.realm(Realms.PAIR);
+        v.comes(0);
+        v.comes(9);
+        v.go(1, 1);
+        v.rest(1, 5);
+        Check.row(v, 0, 0, 0, 0);
+        Check.row(v, 1);
+        dueMeet("free ROADS", v, 0, 1, 7, 1);
         c.on(() -> two(1));
         c.stays("nothing stays", w -> w.meet(0, 1, 1, 3, 0), 5);
     }

@@ -355,6 +355,23 @@ final class KingdomEdges {
         c.due("THE LEDGER", y.ledger(0, 719), 0);
         c.due("a TRAVELLER comes", y.comes(7), 0);
         c.dueEach("of(0, #)", what -> y.of(0, what), 0, 0, 7, 0, 0, 0);
+        TollsBack w = Realms.busy();
+        w.close(1, false);
+        w.go(0, 1);
+        w.kingdom(0);
+        Check.kingdom(w, "towns 3;home 2;year 7;late 8;summer 1 to 2;road 0 to 2 toll 9 days 9;");
+        Check.kingdom(w, "towns 2;road 0 to 1 toll 4 days 3;");
+        c.dueEach("nothing is left of the one ahead: count(#)", w::count, 2, 1, 0, 0, 360, 50, 0, 0, 2);
+        c.dueEach("summer: 90 and 269, not 2", what -> w.summer(new int[] {2, 89, 90, 269, 270}[what]), 0, 0, 1, 1, 0);
+        c.dueEach("the first ROAD: road(0, #)", what -> w.road(0, what), 0, 1, 4, 4, 3, 0);
+        c.due("a TRAVELLER comes", w.comes(9), 0);
+        c.dueEach("nor of the first TRAVELLER: of(0, #)", what -> w.of(0, what), 0, 0, 9, 0, 0, 0);
+        Check.kingdom(w, "towns 3;road 0 to 1 toll 1 days 1;road 0 to 2 toll 1 days 1;road 1 to 2 toll 1 days 1;");
+        Check.kingdom(w, "towns 3;road 0 to 1 toll 4 days 3;");
+        c.due("nor of its ROADS: from(2)", w.from(2), 0);
+        c.due("lane(0, 2, 0, 0)", w.lane(0, 2, 0, 0), -1);
+        c.due("box(4)", w.box(4), -1);
+        c.due("cutOff(0)", w.cutOff(0), 2);
         String land = "towns 4;home 3;year 9;late 8;summer 1 to 2;road 0 to 1 toll 1 days 1;";
         c.on(() -> {
             TollsBack z = Realms.onTheWay();

@@ -111,7 +111,7 @@ final class RowEdges {
             c.due("0, 2, then 4 as it was, then 3", x.forged(3), 3);
             x.numbers(3, sort, 1);
             c.due("one into just one place", x.copy(1, 3), 1);
-            c.due("from its second TOWN to its first: 5", x.journeys(3, 1), 1);
+            c.due("from its second TOWN to its first: 5", x.journey(3, 1, 0, 0), 2);
             x.numbers(3, sort, 0);
             c.due("none into none", x.copy(2, 3), 0);
         }
@@ -188,12 +188,18 @@ final class RowEdges {
         c.says(Check.TERMS, "IMAGES 0 to 1: all but THE TAPE, the FAULT and ROWS, as it was (none at first).");
         c.on(() -> {
             TollsBack x = Realms.onTheWay();
+            x.rest(0, 33);
+            x.go(0, 2);
+            x.rest(2, 44);
             x.image(1);
             return x;
         });
         c.stays("all is as it was", x -> {
+            x.go(0, 2);
             x.give(0, 1, 20);
             x.change(0, 1);
+            x.go(0, 2);
+            x.rest(0, 55);
             x.go(0, 2);
             x.rest(2, 99);
             x.comes(5);

@@ -428,11 +428,20 @@ final class TravellerEdges {
         dueJudged(x, 0, roads(1, 0), -1, 0, 0, 17, 0, 0, 16);
         dueJudged(x, 0, roads(1, 0, 0, 0, 2), -1, 0, 40, 27, 1, 2, 27);
         dueJudged(x, 0, roads(1, 0, 1, 0), 2, -9, 0, 17, 0, 0, 16);
+        dueJudged(x, 0, roads(1, 1), -1, 0, 7, 7, 2, 2, 14);
         dueJudged(x, 0, roads(0, 1), 0, -9, 0, 0, 2, 2, 8);
         dueJudged(x, 0, roads(2, 1, 99), 1, -9, 30, 0, 3, 0, 9);
+        x.close(0, true);
+        dueJudged(x, 0, roads(32), 0, -2, 0, 0, 2, 2, 8);
+        x.close(0, false);
         for (long none : roads(-1, 3, 24, 128, 1L << 32, Long.MAX_VALUE, Long.MIN_VALUE)) {
             dueJudged(x, 0, roads(1, none, 0), 1, -2, 0, 7, 1, 1, 11);
         }
+        x.go(0, 1);
+        x.rest(0, 95);
+        dueJudged(x, 0, roads(0, 0), -1, 0, 20, 4, 1, 1, 116);
+        x.go(0, 1);
+        dueJudged(x, 0, roads(1, 0, 0), -1, 0, 20, 11, 1, 1, 122);
         TollsBack y = Realms.withForty();
         dueJudged(y, 0, Check.byTurns(40, 1, 0), -1, 0, 0, 180, 0, 0, 120);
         TollsBack z = Check.realm(Realms.PAIR);
@@ -462,6 +471,9 @@ final class TravellerEdges {
         dueJudged(y, 0, roads(1, 0), -1, 0, 17, 0, 2, 0, 9);
         dueJudged(y, 0, roads(1, 0, 2), 2, -5, 17, 0, 2, 0, 9);
         dueJudged(y, 0, roads(1, 0, 0, 0, 2), 4, -5, 27, 10, 2, 0, 19);
+        TollsBack w = Check.realm(Realms.PAIR);
+        w.comes(0);
+        dueJudged(w, 0, roads(0, 0, 0, 1), 3, -5, 0, 0, 1, 1, 3);
         TollsBack z = Realms.withForty();
         dueJudged(z, 0, roads(1, 1, 0), 2, -4, 9, 9, 40, 0, 64);
         dueJudged(z, 0, roads(0), 0, -4, 0, 0, 40, 0, 60);
