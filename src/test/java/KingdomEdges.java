@@ -194,6 +194,42 @@ final class KingdomEdges {
         }
         c.bad(4, t + "^road 0 to 1 toll 1 days 1;");
         c.good(t + "year 5;", 26);
+        twelveTownsAndAllRoads();
+    }
+
+    /** The most TOWNS and ROADS: a row of the longest ones, and the other 13 between the last two TOWNS. */
+    private void twelveTownsAndAllRoads() {
+        StringBuilder t = new StringBuilder(Realms.longRow());
+        for (int r = 11; r < 24; r++) {
+            t.append("road11to10toll").append(r).append("days").append(r).append(";");
+        }
+        TollsBack x = Check.realm(t.toString());
+        for (int i = 0; i < 6; i++) {
+            x.comes(1000000);
+        }
+        Check.row(x, 0, 0, 1, 2, 3, 4, 5, 6, 7, 8, 9, 11);
+        c.due("to the last TOWN", x.perform(0, 0), 11);
+        c.due("by ROAD 23", x.go(0, 23), 23);
+        c.due("SLIPS", x.of(0, 3), 12);
+        c.due("one more than places", x.copy(0, 0), -7);
+        c.due("from(10)", x.from(10), (1 << 24) - 1 - 511);
+        c.due("lane to it", x.lane(0, 11, 0, 20), 11);
+        c.due("box of it", x.box(2048), 2 * (900 + 11));
+        c.due("cutOff(9)", x.cutOff(9), 3072);
+        c.due("cutOff(23)", x.cutOff(23), 0);
+        c.due("cheapest", x.cheapest(0, 1), 12);
+        c.due("partner", x.partner(1), -1);
+        c.due("price", x.price(0, 1), 0);
+        c.due("gain", x.gain(1, 2, 0), 0);
+        c.due("through", x.through(1, 2, 8, 1), 2);
+        c.due("fair", x.fair(5, 0, 40), 40);
+        Check.row(x, 1, 0, 2, 4, 6, 8, 10, 12, 14, 16, 18, 20, 23, 46);
+        c.due("forged", x.forged(1), 11);
+        Check.row(x, 1, 0, 2, 4, 6, 8, 10, 12, 14, 16, 18, 47, 44);
+        c.due("forged", x.forged(1), -1);
+        c.due("journeys", x.journeys(1, 12), 1);
+        c.due("journey", x.journey(1, 12, 0, 11), 22);
+        c.due("journey, not so many", x.journey(1, 12, 1, 0), -1);
     }
 
     private void laterOnes() {
@@ -372,6 +408,14 @@ final class KingdomEdges {
         c.due("lane(0, 2, 0, 0)", w.lane(0, 2, 0, 0), -1);
         c.due("box(4)", w.box(4), -1);
         c.due("cutOff(0)", w.cutOff(0), 2);
+        w.comes(4);
+        w.numbers(0, 0, 0);
+        c.due("through(0, 2, 2, 0)", w.through(0, 2, 2, 0), 0);
+        c.due("through(0, 4, 8, 0)", w.through(0, 4, 8, 0), -1000000);
+        c.due("journeys(0, 2)", w.journeys(0, 2), 1);
+        c.due("journey(0, 2, 0, 1)", w.journey(0, 2, 0, 1), 0);
+        c.due("journey(0, 2, 1, 0)", w.journey(0, 2, 1, 0), -1);
+        c.due("fair(0, 3, 40)", w.fair(0, 3, 40), 40);
         String land = "towns 4;home 3;year 9;late 8;summer 1 to 2;road 0 to 1 toll 1 days 1;";
         c.on(() -> {
             TollsBack z = Realms.onTheWay();
